@@ -8,6 +8,7 @@ final class CatTest {
         route();
         bowls();
         startled();
+        startledInRowOne();
         notStartled();
         restingWalkerIsStartled();
         drying();
@@ -85,6 +86,14 @@ final class CatTest {
         Check.due("turnCount after " + setup, floor.turnCount(), 0);
         Check.due("fallCount after " + setup, floor.fallCount(), 0);
         Check.due("walkerTile after " + setup, floor.walkerTile(), right ? 3 : 1);
+    }
+
+    /** Both are in row 1, where the walker came at the end of the first minute. */
+    private static void startledInRowOne() {
+        MoonlitFloor near = Check.floor("floor 2 5;light 2;noise 2;cat 9 stay stay left;bowl 8;advance 3");
+        Check.due("facesRight, at the distance of the noise", near.facesRight(), false);
+        Check.due("turnCount", near.turnCount(), 0);
+        Check.due("walkerTile", near.walkerTile(), 6);
     }
 
     /** The walker stands in column 2 of row 0. */
@@ -234,5 +243,11 @@ final class CatTest {
             Check.noIndex("spillTime " + tile, () -> floor.spillTime(tile));
         }
         Check.due("spillTime of the last tile", floor.spillTime(11), 3);
+        MoonlitFloor largest = Check.floor("floor 8 10;rug 79;cat 78 right stay;bowl 79");
+        Check.due("hasRug 79", largest.hasRug(79), true);
+        Check.due("hasBowl 79", largest.hasBowl(79), true);
+        largest.advance(1);
+        Check.due("hasBowl 79", largest.hasBowl(79), false);
+        Check.due("spillTime 79", largest.spillTime(79), 8);
     }
 }

@@ -185,33 +185,15 @@ final class ChangeTest {
     private static void undoAdvance() {
         MoonlitFloor floor = Check.floor("floor 2 5;light 3;rest 2;noise 9;stamina 3;rug 1 6;cat 4 left left down;"
                 + "draught 2 4;drying 20;bowl 2 8;spill 9 9;advance 1");
-        String[] before = state(floor);
+        String[] before = States.of(floor);
         floor.advance(300);
         floor.undo();
-        String[] after = state(floor);
-        for (int i = 0; i < before.length; i++) {
-            Check.due("state " + i + " after undo", after[i], before[i]);
-        }
+        States.same("after undo", States.of(floor), before);
         floor.advance(300);
-        String[] again = state(floor);
+        String[] later = States.of(floor);
         floor.undo();
         floor.advance(300);
-        String[] oncemore = state(floor);
-        for (int i = 0; i < again.length; i++) {
-            Check.due("state " + i + " after the same once more", oncemore[i], again[i]);
-        }
-    }
-
-    private static String[] state(MoonlitFloor floor) {
-        StringBuilder tiles = new StringBuilder();
-        for (int tile = 0; tile < floor.rows() * floor.columns(); tile++) {
-            tiles.append(floor.wear(tile)).append(' ').append(floor.spillTime(tile)).append(floor.hasRug(tile));
-            tiles.append(floor.hasBowl(tile)).append(' ');
-        }
-        return new String[] {tiles.toString(), floor.night() + ":" + floor.minute(), "" + floor.walkerTile(),
-            "" + floor.facesRight(), "" + floor.restRemaining(), "" + floor.stepsSincePause(), "" + floor.totalSteps(),
-            "" + floor.stepsTonight(), "" + floor.turnCount(), "" + floor.fallCount(), "" + floor.catTile(),
-            "" + floor.slideCount(), Check.records(floor), "" + floor.isCurtainClosed(2), "" + floor.pace()};
+        States.same("the same once more", States.of(floor), later);
     }
 
     private static void undoLimit() {

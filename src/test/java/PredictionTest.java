@@ -65,30 +65,10 @@ final class PredictionTest {
         }
     }
 
-    private static String all(MoonlitFloor floor) {
-        StringBuilder all = new StringBuilder();
-        for (int row = 0; row < floor.rows(); row++) {
-            all.append(Check.row(floor, row)).append('|');
-        }
-        for (int tile = 0; tile < floor.rows() * floor.columns(); tile++) {
-            all.append(floor.wear(tile)).append(' ').append(floor.spillTime(tile)).append(' ');
-            all.append(floor.hasRug(tile)).append(floor.hasBowl(tile)).append(' ');
-        }
-        for (int column = 0; column < floor.columns(); column++) {
-            all.append(floor.isCurtainClosed(column));
-        }
-        all.append(floor.night()).append(' ').append(floor.minute()).append(' ').append(floor.pace()).append(' ');
-        all.append(floor.totalSteps()).append(' ').append(floor.stepsTonight()).append(' ');
-        all.append(floor.stepsSincePause()).append(' ').append(floor.restRemaining()).append(' ');
-        all.append(floor.turnCount()).append(' ').append(floor.fallCount()).append(' ').append(floor.slideCount());
-        all.append(' ').append(floor.facesRight()).append(Check.records(floor)).append(floor.undoCount());
-        return all.toString();
-    }
-
     private static void nothingChanges() {
         MoonlitFloor floor = Check.floor(BUSY);
         floor.setCurtain(4, true);
-        String before = all(floor);
+        String[] before = States.of(floor);
         floor.stepsAfter(300);
         floor.walkerTileAfter(299);
         floor.spillTimeAfter(3, 298);
@@ -98,12 +78,13 @@ final class PredictionTest {
         floor.bestPace(200);
         floor.bestCurtain(100);
         floor.minutesUntilLit(19);
-        Check.due("the state after predictions", all(floor), before);
+        States.same("after predictions", States.of(floor), before);
+        Check.due("undoCount after predictions", floor.undoCount(), 1);
         floor.advance(10);
         MoonlitFloor other = Check.floor(BUSY);
         other.setCurtain(4, true);
         other.advance(10);
-        Check.due("the state after 10 minutes more", all(floor), all(other));
+        States.same("after 10 minutes more", States.of(floor), States.of(other));
     }
 
     /** Promise 48. */

@@ -24,6 +24,7 @@ final class SetupTest {
         limits();
         smallestCode();
         defaults();
+        earlierSetups();
         repeatedSettings();
         whenSettingsEnd();
         events();
@@ -225,6 +226,18 @@ final class SetupTest {
             Check.error("floor 2 2;repeat 1(" + word + ")", SYNTAX, 19);
             Check.valid("floor 2 2;pace 2;" + word + ";turn");
         }
+        for (String event : new String[] {"bowl 1", "spill 1 2", "mop row 0", "turn", "open 1", "close 0", "carry 0",
+            "advance 1", "sleep", "repeat 1(turn)", "turn;pace 2"}) {
+            String setup = "floor 2 2;cat 1;curtain 1;" + event;
+            Check.valid(setup);
+            Check.error(setup + ";light 2", SYNTAX, setup.length() + 1);
+        }
+        for (String word : new String[] {"floor", "row", "column", "stay", "up", "down", "left", "right", "(", ")", "7",
+            "x", "!"}) {
+            Check.error("floor 2 2;" + word + " 1", SYNTAX, 10);
+            Check.error("floor 2 2;turn;" + word + " 1", SYNTAX, 15);
+            Check.error("floor 2 2;repeat 1(" + word + " 1", SYNTAX, 19);
+        }
         Check.valid("floor 2 2;pace 2;light 2;pace 3;turn;pace 4");
         Check.error("floor 2 2;turn;pace 4;light 2", SYNTAX, 22);
         Check.error("floor 2 2;turn 1", SYNTAX, 15);
@@ -308,6 +321,9 @@ final class SetupTest {
         Check.error("floor 2 3;spill 1 9;spill 1 9", CONFLICT, 26);
         Check.error("floor 2 3;spill 1 2;advance 2;mop 1", CONFLICT, 34);
         Check.error("floor 2 3;mop 1", CONFLICT, 14);
+        Check.error("floor 2 3;spill 1 1;bowl 1", CONFLICT, 25);
+        Check.error("floor 2 3;spill 1 1;spill 1 1", CONFLICT, 26);
+        Check.valid("floor 2 3;spill 1 1;mop 1");
         Check.error("floor 2 3;open 1", CONFLICT, 15);
         Check.error("floor 2 3;curtain 1;open 1 1", CONFLICT, 27);
         Check.error("floor 2 3;curtain 1;close 1", CONFLICT, 26);
@@ -393,19 +409,59 @@ final class SetupTest {
         Check.due("restRemaining", cat.restRemaining(), 0);
         cat.advance(7);
         Check.due("steps without a pause", cat.stepsSincePause(), 8);
-        MoonlitFloor quiet = Check.floor("floor 2 3;light 20;cat 3 right stay;walker 1 left;bowl 4");
-        quiet.advance(1);
-        Check.due("not startled", quiet.walkerTile(), 0);
-        // what an earlier setup set is gone
-        MoonlitFloor again = Check.floor("floor 2 4;light 3;pace 4;drying 5;rest 4;stamina 7;noise 9;night 3;cat 1 up;"
-                + "walker 2 left;curtain 1;draught 0 7;cloud 3 4;rug 6;bowl 5;spill 7 90;advance 10");
-        Check.fill(again, "floor 2 9;light 20;cat 9 up;bowl 0");
-        again.parseSetup(34);
-        Check.due("steps of the second setup", again.advance(9), 8);
-        Check.due("minute of the second setup", again.minute(), 9);
-        Check.due("spills of the second setup", again.spillCount(), 1);
-        Check.due("spillTime of the second setup", again.spillTime(0), 1);
-        Check.due("turns of the second setup", again.turnCount(), 1);
+        // beside the spill the walker is not startled, but has to turn
+        Check.due("no noise", Check.floor("floor 2 3;light 20;cat 3 up;walker 1 left;bowl 0;advance 1").turnCount(), 1);
+    }
+
+    private static MoonlitFloor parsed(String... setups) {
+        MoonlitFloor floor = new MoonlitFloor();
+        for (String setup : setups) {
+            Check.fill(floor, setup);
+            try {
+                floor.parseSetup(setup.length());
+            } catch (IllegalArgumentException e) {
+                Check.due("an error is wanted in " + setup, floor.parseErrorCode() > 0, true);
+            }
+        }
+        return floor;
+    }
+
+    /** What an earlier setup set, or did before its error, is gone. */
+    private static void earlierSetups() {
+        String busy = "floor 3 5;light 3;pace 4;drying 5;rest 9;stamina 7;noise 9;night 3;walker 3 left;rug 2 6;"
+                + "draught 0 7;cloud 3 4;curtain 4;cat 10 stay stay up up stay stay;bowl 0 3 14;sleep";
+        String busier = busy + ";advance 7;spill 9 90";
+        MoonlitFloor before = Check.floor(busy);
+        Check.due("records of the busy setup", before.recordCount(), 1);
+        Check.due("falls of it", before.fallCount(), 1);
+        Check.due("rest of it", before.restRemaining(), 3);
+        Check.due("slides of it", before.slideCount(), 1);
+        Check.due("steps of the night of the other", Check.floor(busier).stepsTonight() > 0, true);
+        Check.due("steps of the other since a pause", Check.floor(busier).stepsSincePause() > 0, true);
+        String[] nexts = {"floor 2 9;light 20;cat 9 up;bowl 0", "floor 3 4;cat 11", "floor 3 4;night 0",
+            "floor 3 4;noise 3;cat 3 left down right up;bowl row 2 6"};
+        for (String next : nexts) {
+            for (String first : new String[] {busy, busier, busier + ";repeat 2(repeat 3(turn;light"}) {
+                String[] due = States.of(Check.floor(next));
+                MoonlitFloor again = parsed(first, next);
+                States.same(next, States.of(again), due);
+                MoonlitFloor fresh = Check.floor(next);
+                again.advance(200);
+                fresh.advance(200);
+                States.same(next + " and 200 minutes", States.of(again), States.of(fresh));
+            }
+        }
+        String long2000 = "floor 2 2;repeat 4(advance 300;advance 200)";
+        Check.due("2000 minutes once more", parsed(long2000, long2000).parseErrorCode(), 0);
+        Check.due("2000 minutes after an error", parsed(long2000 + ";light", long2000).parseErrorCode(), 0);
+        MoonlitFloor bracket = parsed("floor 2 2;repeat 2(turn;light", "floor 2 2;turn)");
+        Check.due("a bracket that an earlier setup opened", bracket.parseErrorPosition(), 14);
+        MoonlitFloor four = parsed("floor 2 2;repeat 2(turn;light", "floor 2 2;repeat 1(repeat 1(repeat 1(turn)))");
+        Check.due("three brackets", four.parseErrorCode(), 0);
+        Check.due("an entry after an error in an entry", parsed("floor 2 2;5", "floor 2 2;turn").parseErrorCode(), 0);
+        Check.due("no semicolon after such an error", parsed("floor 2 2;5", "floor 2 2 turn").parseErrorPosition(), 10);
+        Check.due("a setting after events of an earlier setup", parsed("floor 2 2;turn", "floor 2 2;light 3")
+                .parseErrorCode(), 0);
     }
 
     private static void repeatedSettings() {

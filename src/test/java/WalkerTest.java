@@ -226,6 +226,9 @@ final class WalkerTest {
         kept.advance(1);
         Check.due("nearest to the remembered column", kept.walkerTile(), 3);
         Check.due("the direction stays", kept.facesRight(), false);
+        // the column of the new tile is remembered from then on
+        Check.due("from the new column", Check.floor("floor 2 5;light 1;walker 2 right;curtain 0 1 2 4;open 0 1 2;"
+                + "advance 1").walkerTile(), 8);
         MoonlitFloor resting = Check.floor("floor 2 3;light 1;stamina 1;advance 1");
         Check.due("a resting walker is relocated", resting.walkerTile(), 4);
         Check.due("and goes on resting", resting.restRemaining(), 1);
@@ -265,7 +268,7 @@ final class WalkerTest {
         String[] setups = {"floor 2 3", "floor 2 2;night 0", "floor 2 2;curtain 0 1", "floor 2 3;cloud 1 1;advance 1",
             "floor 2 3;stamina 1;cloud 1 1;advance 1", "floor 2 3;stamina 1;advance 1", "floor 2 2;stamina 1;advance 1",
             "floor 2 2;walker 1 right", "floor 2 2;walker 0 left", "floor 2 3;curtain 1", "floor 2 3;spill 1 5;close 1",
-            "floor 2 3;spill 1 5", "floor 2 3;walker 2 left;spill 1 5", "floor 2 3;walker 2 left;curtain 1",
+            "floor 2 3;spill 1 1", "floor 2 3;walker 2 left;spill 1 5", "floor 2 3;walker 2 left;curtain 1",
             "floor 2 3;walker 2 left", "floor 2 3;spill 4 5", "floor 2 3;rug 1;cat 1;bowl 1",
             "floor 2 3;walker 2 right;spill 3 5", "floor 2 3;light 1;spill 4 9;turn;advance 1"};
         int[] due = {0, 1, 1, 2, 2, 3, 3, 4, 4, 5, 5, 6, 6, 5, 0, 0, 0, 4, 6};
@@ -286,6 +289,8 @@ final class WalkerTest {
         for (int tile = 0; tile < 8; tile++) {
             Check.due("wear later " + tile, floor.wear(tile), later[tile]);
         }
+        MoonlitFloor last = Check.floor("floor 8 10;light 1;pace 2;walker 9 left;close 0 1 2 3 4 5 6 7;advance 8");
+        Check.due("wear of the last tile", last.wear(79), 1);
         for (int tile : new int[] {-1, 8, 80, Integer.MIN_VALUE, Integer.MAX_VALUE}) {
             Check.noIndex("wear " + tile, () -> floor.wear(tile));
         }
