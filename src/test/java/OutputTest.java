@@ -76,6 +76,8 @@ final class OutputTest {
         Check.due("writeRecords", floor.writeRecords(), 1);
         Check.due("outputByte 0", floor.outputByte(0), 45);
         Check.noIndex("outputByte 1", () -> floor.outputByte(1));
+        Check.due("writeRow once more", floor.writeRow(1), 3);
+        Check.due("outputByte 0", floor.outputByte(0), 46);
     }
 
     private static void outputStays() {

@@ -439,16 +439,19 @@ final class SetupTest {
         Check.due("steps of the night of the other", Check.floor(busier).stepsTonight() > 0, true);
         Check.due("steps of the other since a pause", Check.floor(busier).stepsSincePause() > 0, true);
         String[] nexts = {"floor 2 9;light 20;cat 9 up;bowl 0", "floor 3 4;cat 11", "floor 3 4;night 0",
-            "floor 3 4;noise 3;cat 3 left down right up;bowl row 2 6"};
+            "floor 3 4;noise 3;cat 3 left down right up;bowl row 2 6", "floor 3 4;light 9;cat 7 up left;bowl 3",
+            "floor 3 4;light 9;pace 3"};
         for (String next : nexts) {
             for (String first : new String[] {busy, busier, busier + ";repeat 2(repeat 3(turn;light"}) {
                 String[] due = States.of(Check.floor(next));
                 MoonlitFloor again = parsed(first, next);
                 States.same(next, States.of(again), due);
                 MoonlitFloor fresh = Check.floor(next);
-                again.advance(200);
-                fresh.advance(200);
-                States.same(next + " and 200 minutes", States.of(again), States.of(fresh));
+                for (int minutes : new int[] {1, 200}) {
+                    again.advance(minutes);
+                    fresh.advance(minutes);
+                    States.same(next + " and then " + minutes, States.of(again), States.of(fresh));
+                }
             }
         }
         String long2000 = "floor 2 2;repeat 4(advance 300;advance 200)";
