@@ -4,6 +4,10 @@ final class Check {
         Object answer();
     }
 
+    interface IndexCall {
+        Object answer(int index);
+    }
+
     private static int wrong = 0;
     private static int made = 0;
 
@@ -14,7 +18,7 @@ final class Check {
         made++;
         if (!want.equals(got)) {
             wrong++;
-            System.out.println(what + " answered " + got + ", due is " + want);
+            System.out.println(what + " answered " + got + ", due is " + want + Sentence.now());
         }
     }
 
@@ -29,7 +33,7 @@ final class Check {
         }
         if (got != want) {
             wrong++;
-            System.out.println(what + " answered " + got + ", due is " + want);
+            System.out.println(what + " answered " + got + ", due is " + want + Sentence.now());
         }
     }
 
@@ -88,6 +92,51 @@ final class Check {
             due(setup, floor.parseErrorCode() + " at " + floor.parseErrorPosition(), "no error");
         }
         due("code of " + setup, floor.parseErrorCode(), 0);
+    }
+
+    /** A number that stands between two texts must be from low to high. */
+    static void range(String before, int low, int high, String after) {
+        valid(before + low + after);
+        valid(before + high + after);
+        if (low > 0) {
+            error(before + (low - 1) + after, MoonlitFloor.RANGE_ERROR, before.length());
+        }
+        if (high < 999) {
+            error(before + (high + 1) + after, MoonlitFloor.RANGE_ERROR, before.length());
+        }
+    }
+
+    /** The indexes 0 to count - 1 are taken, and all others are refused. */
+    static void indexes(String what, int count, IndexCall call) {
+        for (int index : new int[] {-1, count, Integer.MIN_VALUE, Integer.MAX_VALUE}) {
+            noIndex(what + " " + index, () -> call.answer(index));
+        }
+        taken(what + " 0", () -> call.answer(0));
+        taken(what + " " + (count - 1), () -> call.answer(count - 1));
+    }
+
+    /** The numbers low to high are taken, and all others are refused. */
+    static void numbers(String what, int low, int high, IndexCall call) {
+        for (int number : new int[] {low - 1, Integer.MIN_VALUE, Integer.MAX_VALUE}) {
+            if (number < low || number > high) {
+                noArgument(what + " " + number, () -> call.answer(number));
+            }
+        }
+        if (high < Integer.MAX_VALUE) {
+            noArgument(what + " " + (high + 1), () -> call.answer(high + 1));
+        }
+        taken(what + " " + low, () -> call.answer(low));
+        taken(what + " " + high, () -> call.answer(high));
+    }
+
+    static void taken(String what, Call call) {
+        Object got;
+        try {
+            got = call.answer() == null ? "nothing" : "an answer";
+        } catch (RuntimeException e) {
+            got = e.getClass();
+        }
+        due(what, got, "an answer");
     }
 
     static String output(MoonlitFloor floor, int length) {

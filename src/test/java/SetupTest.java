@@ -257,55 +257,44 @@ final class SetupTest {
         Check.error("floor 2 2;repeat(turn)", SYNTAX, 16);
     }
 
-    private static void range(String before, int low, int high, String after) {
-        Check.valid(before + low + after);
-        Check.valid(before + high + after);
-        if (low > 0) {
-            Check.error(before + (low - 1) + after, RANGE, before.length());
-        }
-        if (high < 999) {
-            Check.error(before + (high + 1) + after, RANGE, before.length());
-        }
-    }
-
     private static void rangesOfSettings() {
-        range("floor ", 2, 8, " 2");
-        range("floor 2 ", 2, 10, "");
-        range("floor 2 2;light ", 1, 20, "");
-        range("floor 2 2;pace ", 1, 5, "");
-        range("floor 2 2;drying ", 1, 99, "");
-        range("floor 2 2;rest ", 0, 9, "");
-        range("floor 2 2;stamina ", 0, 99, "");
-        range("floor 2 2;noise ", 0, 20, "");
-        range("floor 2 2;night ", 0, 999, "");
-        range("floor 2 7;walker ", 0, 6, " left");
-        range("floor 3 7;cat ", 0, 20, "");
-        range("floor 3 7;curtain ", 0, 6, "");
-        range("floor 3 7;draught ", 0, 6, " 2");
-        range("floor 3 7;draught 1 ", 2, 60, "");
-        range("floor 3 7;cloud ", 0, 159, " 159");
-        range("floor 3 7;cloud 0 ", 0, 159, "");
-        range("floor 3 7;cloud 17 ", 17, 159, "");
-        range("floor 3 7;rug ", 0, 20, "");
-        range("floor 3 4;rug row ", 0, 2, "");
-        range("floor 3 7;rug column ", 0, 6, "");
+        Check.range("floor ", 2, 8, " 2");
+        Check.range("floor 2 ", 2, 10, "");
+        Check.range("floor 2 2;light ", 1, 20, "");
+        Check.range("floor 2 2;pace ", 1, 5, "");
+        Check.range("floor 2 2;drying ", 1, 99, "");
+        Check.range("floor 2 2;rest ", 0, 9, "");
+        Check.range("floor 2 2;stamina ", 0, 99, "");
+        Check.range("floor 2 2;noise ", 0, 20, "");
+        Check.range("floor 2 2;night ", 0, 999, "");
+        Check.range("floor 2 7;walker ", 0, 6, " left");
+        Check.range("floor 3 7;cat ", 0, 20, "");
+        Check.range("floor 3 7;curtain ", 0, 6, "");
+        Check.range("floor 3 7;draught ", 0, 6, " 2");
+        Check.range("floor 3 7;draught 1 ", 2, 60, "");
+        Check.range("floor 3 7;cloud ", 0, 159, " 159");
+        Check.range("floor 3 7;cloud 0 ", 0, 159, "");
+        Check.range("floor 3 7;cloud 17 ", 17, 159, "");
+        Check.range("floor 3 7;rug ", 0, 20, "");
+        Check.range("floor 3 4;rug row ", 0, 2, "");
+        Check.range("floor 3 7;rug column ", 0, 6, "");
         Check.error("floor 3 7;rug 1 21", RANGE, 16);
     }
 
     private static void rangesOfEvents() {
-        range("floor 2 2;turn;pace ", 1, 5, "");
-        range("floor 3 7;bowl ", 0, 20, "");
-        range("floor 3 7;bowl row ", 0, 2, "");
-        range("floor 3 7;bowl column ", 0, 6, "");
-        range("floor 3 7;mop row ", 0, 2, "");
-        range("floor 3 7;mop column ", 0, 6, "");
-        range("floor 3 7;spill ", 0, 20, " 5");
-        range("floor 3 7;spill 20 ", 1, 99, "");
-        range("floor 3 7;close ", 0, 6, "");
-        range("floor 3 3;curtain 0 1 2;open ", 0, 2, "");
-        range("floor 3 7;cat 1;carry ", 0, 20, "");
-        range("floor 3 7;advance ", 1, 300, "");
-        range("floor 3 7;repeat ", 1, 5, "(turn)");
+        Check.range("floor 2 2;turn;pace ", 1, 5, "");
+        Check.range("floor 3 7;bowl ", 0, 20, "");
+        Check.range("floor 3 7;bowl row ", 0, 2, "");
+        Check.range("floor 3 7;bowl column ", 0, 6, "");
+        Check.range("floor 3 7;mop row ", 0, 2, "");
+        Check.range("floor 3 7;mop column ", 0, 6, "");
+        Check.range("floor 3 7;spill ", 0, 20, " 5");
+        Check.range("floor 3 7;spill 20 ", 1, 99, "");
+        Check.range("floor 3 7;close ", 0, 6, "");
+        Check.range("floor 3 3;curtain 0 1 2;open ", 0, 2, "");
+        Check.range("floor 3 7;cat 1;carry ", 0, 20, "");
+        Check.range("floor 3 7;advance ", 1, 300, "");
+        Check.range("floor 3 7;repeat ", 1, 5, "(turn)");
         Check.error("floor 3 7;mop 21", RANGE, 14);
         Check.error("floor 3 7;bowl 1 row 3", RANGE, 21);
     }
