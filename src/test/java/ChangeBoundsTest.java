@@ -10,6 +10,7 @@ final class ChangeBoundsTest {
         stepsOfAdvance();
         setPace();
         setCurtain();
+        curtainBeforeADraught();
         curtainOverTheWalker();
         placeBowl();
         bowlUnderTheCat();
@@ -86,6 +87,22 @@ final class ChangeBoundsTest {
         Check.due("open 9 again", floor.setCurtain(9, false), false);
         Check.due("isCurtainClosed 9", floor.isCurtainClosed(9), false);
         Check.due("isCurtainClosed 0", floor.isCurtainClosed(0), false);
+    }
+
+    private static void curtainBeforeADraught() {
+        Sentence.promise(58, "Opens or closes the curtain of a column.");
+        // the draught stirs the curtain in minutes 2, 4 and so on
+        MoonlitFloor floor = Check.floor("floor 2 3;light 20;draught 2 2");
+        floor.setCurtain(2, true);
+        floor.advance(2);
+        Check.due("a closed curtain after the draught", floor.isCurtainClosed(2), false);
+        Check.due("the tile behind it", floor.isLit(2), true);
+        floor.advance(2);
+        Check.due("and after the next draught", floor.isCurtainClosed(2), true);
+        floor.setCurtain(2, false);
+        floor.advance(2);
+        Check.due("an opened curtain after the draught", floor.isCurtainClosed(2), true);
+        Check.due("the tile behind it", floor.isLit(2), false);
     }
 
     private static void curtainOverTheWalker() {

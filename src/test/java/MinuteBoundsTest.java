@@ -310,6 +310,10 @@ final class MinuteBoundsTest {
         slide("floor 2 4;light 20;rug 1;cloud 0 0;spill 2 1", 2, 1, 2, 1);
         slide("floor 2 4;light 20;rug 1;close 2", 1, 1, 2, 1);
         slide("floor 2 4;light 20;rug 1;cat 2", 1, 1, 2, 1);
+        // right to the bowl, over it, and back: the rug comes to the tile that it left
+        slide("floor 2 5;light 20;rug 2;bowl 4", 3, 3, 3, 1);
+        slide("floor 2 5;light 20;rug 2;bowl 4", 5, 4, 3, 1);
+        slide("floor 2 5;light 20;rug 2;bowl 4", 6, 3, 2, 2);
         MoonlitFloor two = after("floor 2 4;light 20;rug 1 2", 1);
         Check.due("a rug behind a rug", two.hasRug(1) && two.hasRug(2) && !two.hasRug(3), true);
         Check.due("walkerTile", two.walkerTile(), 1);

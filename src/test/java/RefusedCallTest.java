@@ -78,6 +78,7 @@ final class RefusedCallTest {
                 continue;
             }
             seen.add(method.getName());
+            Sentence.promiseOf(method.getName(), "Throws IllegalStateException if no setup has been loaded");
             MoonlitFloor floor = new MoonlitFloor();
             for (Object[] list : arguments(method)) {
                 Object got;

@@ -35,6 +35,13 @@ final class Sentence {
         look("promise " + number, words, start, next < 0 ? DOCUMENT.indexOf(LAST) : next);
     }
 
+    /** Words from the promise whose heading names a method. */
+    static void promiseOf(String method, String words) {
+        int heading = DOCUMENT.indexOf(": " + method + " ", DOCUMENT.indexOf("## Promise 2:"));
+        int start = DOCUMENT.lastIndexOf("## Promise ", heading);
+        promise(heading < 0 ? 0 : Integer.parseInt(DOCUMENT.substring(start + 11, heading)), words);
+    }
+
     private static void look(String place, String words, int start, int end) {
         now = " [" + place + ": " + words + "]";
         boolean stands = start >= 0 && start < end && DOCUMENT.substring(start, end).contains(plain(words));

@@ -44,6 +44,7 @@ final class SetupBoundsTest {
         afterTheLastSetting();
         sleep();
         paceBeforeEvents();
+        carriedCat();
         rowsAndColumns();
         skippedTiles();
         laterPasses();
@@ -646,6 +647,21 @@ final class SetupBoundsTest {
         Check.error(LEAST + "pace 2;turn;light 3", SYNTAX, 22);
         Check.error(LEAST + "repeat 1(pace 2);light 3", SYNTAX, 27);
         Check.error(LEAST + "repeat 1(pace 2;light 3)", SYNTAX, 26);
+    }
+
+    private static void carriedCat() {
+        Sentence.term("\"carry\" puts the cat on a tile; its route goes on with the same next move.");
+        // the moves are right, down and left, and then right again
+        int[] fromCorner = {1, 4, 0, 1};
+        int[] fromInside = {7, 10, 5, 7};
+        for (int minutes = 0; minutes < 4; minutes++) {
+            String setup = "floor 3 4;night 0;cat 11 right down left" + (minutes == 0 ? "" : ";advance " + minutes);
+            Check.due("carry 0 after " + minutes, Check.floor(setup + ";carry 0;advance 1").catTile(), fromCorner[minutes]);
+            Check.due("carry 6 after " + minutes, Check.floor(setup + ";carry 6;advance 1").catTile(), fromInside[minutes]);
+        }
+        MoonlitFloor bowl = Check.floor("floor 3 4;night 0;cat 0 right;bowl 5;carry 5");
+        Check.due("a bowl where it is carried", bowl.hasBowl(5), true);
+        Check.valid("floor 3 4;night 0;cat 0 right;spill 5 9;carry 5");
     }
 
     private static String rugsOf(MoonlitFloor floor, boolean bowls) {
